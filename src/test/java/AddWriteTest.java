@@ -7,6 +7,10 @@ public final class AddWriteTest {
         refusesWrongArguments();
         refusesInOrder();
         keepsEarlierSlots();
+        takesEveryKeyAndValueInside();
+        refusesKeysAndValuesOutside();
+        examinesItsConditionsInOrder();
+        refusesTheKeyOfEverySlot();
         due.end();
     }
 
@@ -78,5 +82,75 @@ public final class AddWriteTest {
         x.read(7, 10);
         due.call(x, "addWrite(0, 7, 1) on a key read at its timestamp", () -> x.addWrite(0, 7, 1), 3,
             "slotState(0, 3)=2", "slotTs(0, 3)=0");
+    }
+
+    private static void takesEveryKeyAndValueInside() {
+        for (int key = 0; key < 16; key++) {
+            for (int value : new int[] {0, 1, 255, 256, 32766, 32767}) {
+                String run = "begin(10); addWrite(0, " + key + ", " + value + "); deliver(0, 0); stage(0); finalize(0)";
+                due.answers("begin(10)", "addWrite(0, " + key + ", " + value + ")", 0);
+                due.answers(run, "read(" + key + ", 10)", value);
+            }
+        }
+    }
+
+    private static void refusesKeysAndValuesOutside() {
+        String[] runs = {"begin(10)", "begin(10); addWrite(0, 0, 1); addWrite(0, 15, 2); deliver(0, 0)"};
+        for (String run : runs) {
+            for (int key : Due.WILD) {
+                for (int value : new int[] {-1, 0, 32767, 32768}) {
+                    due.refused(run, "addWrite(0, " + key + ", " + value + ")", ParallelCommit.ERR_ARG);
+                }
+            }
+            for (int value : new int[] {Integer.MIN_VALUE, -32768, -1, 32768, 65536, Integer.MAX_VALUE}) {
+                for (int key = 0; key < 16; key++) {
+                    due.refused(run, "addWrite(0, " + key + ", " + value + ")", ParallelCommit.ERR_ARG);
+                }
+            }
+        }
+    }
+
+    /** The first of the six conditions that holds gives the answer, for each two that can hold at once. */
+    private static void examinesItsConditionsInOrder() {
+        String one = "begin(10); addWrite(0, 3, 1)";
+        String full = "begin(10); addWrite(0, 0, 1); addWrite(0, 1, 1); addWrite(0, 2, 1); addWrite(0, 3, 1)";
+        due.refused(full, "addWrite(1, 16, -1)", ParallelCommit.ERR_NO_TXN);
+        due.refused(full, "addWrite(-1, 3, 32768)", ParallelCommit.ERR_NO_TXN);
+        for (String decided : new String[] {"; stage(0)", "; rollback(0)", "; recover(0)", "; stage(0); recover(0)"}) {
+            for (String dead : new String[] {"", "; crash(0)"}) {
+                due.refused(one + decided + dead, "addWrite(0, 4, 1)", ParallelCommit.ERR_STATE);
+                due.refused(one + decided + dead, "addWrite(0, 16, 1)", ParallelCommit.ERR_STATE);
+                due.refused(one + decided + dead, "addWrite(0, 4, -1)", ParallelCommit.ERR_STATE);
+                due.refused(one + decided + dead, "addWrite(0, 3, 1)", ParallelCommit.ERR_STATE);
+                due.refused(full + decided + dead, "addWrite(0, 4, 1)", ParallelCommit.ERR_STATE);
+            }
+        }
+        due.refused(one + "; crash(0)", "addWrite(0, 4, 1)", ParallelCommit.ERR_DEAD);
+        due.refused(one + "; crash(0)", "addWrite(0, 16, 1)", ParallelCommit.ERR_DEAD);
+        due.refused(one + "; crash(0)", "addWrite(0, 4, -1)", ParallelCommit.ERR_DEAD);
+        due.refused(one + "; crash(0)", "addWrite(0, 3, 1)", ParallelCommit.ERR_DEAD);
+        due.refused(full + "; crash(0)", "addWrite(0, 4, 1)", ParallelCommit.ERR_DEAD);
+        due.refused(one, "addWrite(0, 3, 32768)", ParallelCommit.ERR_ARG);
+        due.refused(full, "addWrite(0, 4, 32768)", ParallelCommit.ERR_ARG);
+        due.refused(full, "addWrite(0, -1, 1)", ParallelCommit.ERR_ARG);
+        due.refused(full, "addWrite(0, 0, 1)", ParallelCommit.ERR_DUP);
+        due.refused(full, "addWrite(0, 4, 1)", ParallelCommit.ERR_FULL);
+    }
+
+    private static void refusesTheKeyOfEverySlot() {
+        StringBuilder run = new StringBuilder("begin(10)");
+        for (int slot = 0; slot < 4; slot++) {
+            due.answers(run.toString(), "addWrite(0, " + 5 * slot + ", 32767)", slot);
+            run.append("; addWrite(0, " + 5 * slot + ", " + slot + ")");
+            for (int earlier = 0; earlier <= slot; earlier++) {
+                due.refused(run.toString(), "addWrite(0, " + 5 * earlier + ", 32767)", ParallelCommit.ERR_DUP);
+                due.refused(run + "; deliver(0, " + earlier + ")", "addWrite(0, " + 5 * earlier + ", 7)", ParallelCommit.ERR_DUP);
+            }
+        }
+        for (int key : new int[] {1, 4, 6, 14}) {
+            due.refused(run.toString(), "addWrite(0, " + key + ", 1)", ParallelCommit.ERR_FULL);
+            due.refused(run + "; deliver(0, 3)", "addWrite(0, " + key + ", 1)", ParallelCommit.ERR_FULL);
+        }
+        due.answers(run + "; begin(10)", "addWrite(1, 0, 1)", 0);
     }
 }

@@ -14,6 +14,11 @@ public final class BeginTest {
         due.call(x, "begin(5) when full", () -> x.begin(5), ParallelCommit.ERR_FULL);
         due.call(x, "begin(0) when full", () -> x.begin(0), ParallelCommit.ERR_ARG);
         due.call(x, "begin(1000001) when full", () -> x.begin(1000001), ParallelCommit.ERR_ARG);
+        takesEveryTimestampInside();
+        for (int maxTxns = 1; maxTxns <= 8; maxTxns++) {
+            refusesUntilAndWhenFull(maxTxns);
+        }
+        refusedOnesUseUpNoId();
         idsAreNeverReused();
         keepsItsTimestamp();
         due.end();
@@ -47,5 +52,41 @@ public final class BeginTest {
         due.is("deliver(1, 0)", x.deliver(1, 0), ParallelCommit.SLOT_AT_TS);
         due.is("slotTs(0, 0)", x.slotTs(0, 0), 1);
         due.is("slotTs(1, 0)", x.slotTs(1, 0), 1000000);
+    }
+
+    private static void takesEveryTimestampInside() {
+        for (int ts : new int[] {1, 2, 500000, 999999, 1000000}) {
+            due.answers("", "begin(" + ts + ")", 0);
+            due.answers("begin(" + ts + "); addWrite(0, 0, 1); deliver(0, 0)", "slotTs(0, 0)", ts);
+        }
+    }
+
+    private static void refusesUntilAndWhenFull(int maxTxns) {
+        for (int begun = 0; begun <= maxTxns; begun++) {
+            String run = "begin(10); ".repeat(begun);
+            for (int ts : new int[] {Integer.MIN_VALUE, -1000000, -1, 0, 1000001, 1000002, Integer.MAX_VALUE}) {
+                due.refused(maxTxns, run, "begin(" + ts + ")", ParallelCommit.ERR_ARG);
+            }
+        }
+        for (int ts : new int[] {1, 10, 1000000}) {
+            due.refused(maxTxns, "begin(10); ".repeat(maxTxns), "begin(" + ts + ")", ParallelCommit.ERR_FULL);
+        }
+        String decided = "begin(10); ".repeat(maxTxns) + "rollback(0); crash(0)";
+        due.refused(maxTxns, decided, "begin(10)", ParallelCommit.ERR_FULL);
+    }
+
+    private static void refusedOnesUseUpNoId() {
+        ParallelCommit x = new ParallelCommit(8);
+        for (int txn = 0; txn < 8; txn++) {
+            for (int i = 0; i < 10; i++) {
+                x.begin(0);
+                x.begin(1000001);
+            }
+            due.is("begin(5) after refused ones", x.begin(5), txn);
+            due.is("status(" + (txn + 1) + ")", x.status(txn + 1), ParallelCommit.ST_FREE);
+        }
+        for (int i = 0; i < 20; i++) {
+            due.is("begin(5) when full", x.begin(5), ParallelCommit.ERR_FULL);
+        }
     }
 }

@@ -12,7 +12,10 @@ public final class ConstructionTest {
         for (int n : new int[] {9, 16, 1000000, Integer.MAX_VALUE - 1, Integer.MAX_VALUE}) {
             clamps(n, 8);
         }
-        startsEmpty();
+        for (int n : new int[] {Integer.MIN_VALUE, 0, 1, 2, 7, 8, 9, Integer.MAX_VALUE}) {
+            startsEmpty(n);
+            startsWithoutAnIntent(n);
+        }
         objectsAreApart();
         due.end();
     }
@@ -23,12 +26,13 @@ public final class ConstructionTest {
             due.is("maxTxns " + maxTxns + ": begin " + i, x.begin(5), i);
         }
         due.is("maxTxns " + maxTxns + ": one begin too many", x.begin(5), ParallelCommit.ERR_FULL);
+        due.refused(maxTxns, "begin(5); ".repeat(want), "begin(5)", ParallelCommit.ERR_FULL);
         due.is("maxTxns " + maxTxns + ": status of the last", x.status(want - 1), ParallelCommit.ST_PENDING);
         due.is("maxTxns " + maxTxns + ": status beyond", x.status(want), ParallelCommit.ST_FREE);
     }
 
-    private static void startsEmpty() {
-        ParallelCommit x = new ParallelCommit(8);
+    private static void startsEmpty(int maxTxns) {
+        ParallelCommit x = new ParallelCommit(maxTxns);
         for (int txn = -2; txn < 10; txn++) {
             noTxn(x, txn);
         }
@@ -65,5 +69,13 @@ public final class ConstructionTest {
         due.is("read(3, 20) of the other object", other.read(3, 20), ParallelCommit.READ_NONE);
         due.is("tsCache(3) of the first object", one.tsCache(3), 0);
         due.is("status(0) of the other object", other.status(0), ParallelCommit.ST_FREE);
+    }
+
+    private static void startsWithoutAnIntent(int maxTxns) {
+        for (int key = 0; key < 16; key++) {
+            ParallelCommit x = new ParallelCommit(maxTxns);
+            Due.writer(x, 1, key);
+            due.is("the first delivery on key " + key, x.deliver(0, 0), ParallelCommit.SLOT_AT_TS);
+        }
     }
 }

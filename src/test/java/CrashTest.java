@@ -5,6 +5,8 @@ public final class CrashTest {
     public static void main(String[] args) {
         crashesInAnyStatus();
         leavesTheRestWorking();
+        changesAliveAloneInAnyStatus();
+        theOthersRefuseAfterTheirEarlierConditions();
         due.end();
     }
 
@@ -47,5 +49,43 @@ public final class CrashTest {
         due.is("recover(1), dead", x.recover(1), ParallelCommit.ST_COMMITTED);
         due.is("begin after crashes", x.begin(30), 2);
         due.is("isAlive(2)", x.isAlive(2), true);
+    }
+
+    private static void changesAliveAloneInAnyStatus() {
+        String[] statuses = {"", "; stage(0)", "; rollback(0)", "; recover(0)", "; stage(0); recover(0)",
+            "; stage(0); finalize(0)"};
+        for (String mix : Mix.all()) {
+            for (String status : statuses) {
+                String run = Mix.run(mix) + status;
+                ParallelCommit x = Call.made(8, Call.parse(run));
+                due.call(x, "crash(0) after " + run, () -> x.crash(0), ParallelCommit.OK, "isAlive(0)=0");
+                due.call(x, "crash(0) again after " + run, () -> x.crash(0), ParallelCommit.ERR_DEAD);
+            }
+        }
+        for (String status : statuses) {
+            due.refused(Mix.run("A-") + status + "; crash(0)", "crash(0)", ParallelCommit.ERR_DEAD);
+            due.refused(Mix.run("AA") + status + "; crash(0)", "crash(0)", ParallelCommit.ERR_DEAD);
+            due.refused(Mix.run("AA") + status, "crash(1)", ParallelCommit.ERR_NO_TXN);
+        }
+        due.answers("begin(10); begin(10); crash(0)", "crash(1)", ParallelCommit.OK);
+        due.answers("begin(10); begin(10); crash(0)", "isAlive(1)", 1);
+    }
+
+    private static void theOthersRefuseAfterTheirEarlierConditions() {
+        String pending = Mix.run("A-") + "; crash(0)";
+        due.refused(pending, "addWrite(0, 1, 1)", ParallelCommit.ERR_DEAD);
+        due.refused(pending, "stage(0)", ParallelCommit.ERR_DEAD);
+        due.refused(pending, "rollback(0)", ParallelCommit.ERR_DEAD);
+        due.refused(pending, "finalize(0)", ParallelCommit.ERR_STATE);
+        String staged = Mix.run("A-") + "; stage(0); crash(0)";
+        due.refused(staged, "addWrite(0, 1, 1)", ParallelCommit.ERR_STATE);
+        due.refused(staged, "stage(0)", ParallelCommit.ERR_STATE);
+        due.refused(staged, "rollback(0)", ParallelCommit.ERR_STATE);
+        due.refused(staged, "finalize(0)", ParallelCommit.ERR_DEAD);
+        due.answers(staged, "probe(0, 1)", ParallelCommit.SLOT_PREVENTED);
+        due.answers(staged, "deliver(0, 1)", ParallelCommit.SLOT_AT_TS);
+        due.answers(staged, "recover(0)", ParallelCommit.ST_ABORTED);
+        due.answers(staged + "; deliver(0, 1)", "recover(0)", ParallelCommit.ST_COMMITTED);
+        due.answers(staged + "; deliver(0, 1); recover(0)", "isAlive(0)", 0);
     }
 }

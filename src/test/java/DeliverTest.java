@@ -10,6 +10,11 @@ public final class DeliverTest {
         pushesAboveAReadOrAVersion();
         pushesAPreventedSlot();
         pushesUpToTheEdge();
+        worksInEachUndecidedStatus();
+        examinesItsConditionsInOrder();
+        refusesEverySlotTwice();
+        pushesWhatIsAtOrAbove();
+        neverWraps();
         due.end();
     }
 
@@ -143,5 +148,95 @@ public final class DeliverTest {
         y.read(0, 999999);
         Due.writer(y, 1000000, 0);
         due.is("deliver just above the floor", y.deliver(0, 0), ParallelCommit.SLOT_AT_TS);
+    }
+
+    private static void worksInEachUndecidedStatus() {
+        for (String status : new String[] {"", "; crash(0)", "; stage(0)", "; stage(0); crash(0)", "; crash(0); stage(0)"}) {
+            for (int slot = 0; slot < 4; slot++) {
+                String run = Mix.run("----") + status;
+                due.answers(run, "deliver(0, " + slot + ")", ParallelCommit.SLOT_AT_TS);
+                due.answers(run + "; read(" + Mix.key(slot) + ", 10)", "deliver(0, " + slot + ")", ParallelCommit.SLOT_PUSHED);
+            }
+        }
+    }
+
+    private static void examinesItsConditionsInOrder() {
+        String busy = "begin(10); addWrite(0, 3, 1); addWrite(0, 4, 1); begin(20); addWrite(1, 3, 2); addWrite(1, 4, 2)";
+        due.refused(busy, "deliver(2, 2)", ParallelCommit.ERR_NO_TXN);
+        due.refused(busy, "deliver(-1, -1)", ParallelCommit.ERR_NO_TXN);
+        due.refused(busy + "; rollback(0)", "deliver(0, 2)", ParallelCommit.ERR_ARG);
+        due.refused(busy + "; rollback(0)", "deliver(0, -1)", ParallelCommit.ERR_ARG);
+        due.refused("begin(10)", "deliver(0, 0)", ParallelCommit.ERR_ARG);
+        due.refused("begin(10); recover(0)", "deliver(0, 0)", ParallelCommit.ERR_ARG);
+        String aborted = busy + "; deliver(0, 0); rollback(0)";
+        due.refused(aborted, "deliver(0, 0)", ParallelCommit.ERR_DUP);
+        due.refused(aborted, "deliver(0, 1)", ParallelCommit.ERR_STATE);
+        due.refused(aborted + "; deliver(1, 0)", "deliver(0, 0)", ParallelCommit.ERR_DUP);
+        due.refused(aborted + "; deliver(1, 1)", "deliver(0, 1)", ParallelCommit.ERR_STATE);
+        due.refused(busy + "; stage(0); recover(0); deliver(1, 1)", "deliver(0, 1)", ParallelCommit.ERR_STATE);
+        String committed = busy + "; deliver(0, 0); deliver(0, 1); stage(0); finalize(0)";
+        due.refused(committed, "deliver(0, 0)", ParallelCommit.ERR_DUP);
+        due.refused(committed + "; deliver(1, 0)", "deliver(0, 0)", ParallelCommit.ERR_DUP);
+        due.refused(busy + "; deliver(1, 0)", "deliver(0, 0)", ParallelCommit.ERR_BUSY);
+        due.refused(busy + "; deliver(1, 0); stage(0); stage(1)", "deliver(0, 0)", ParallelCommit.ERR_BUSY);
+        due.refused(busy + "; read(3, 30); deliver(1, 0)", "deliver(0, 0)", ParallelCommit.ERR_BUSY);
+        due.answers(busy + "; deliver(1, 0)", "deliver(0, 1)", ParallelCommit.SLOT_AT_TS);
+    }
+
+    /** Delivered at ts or pushed, in any status: the second delivery is ERR_DUP. */
+    private static void refusesEverySlotTwice() {
+        String[] statuses = {"", "; crash(0)", "; stage(0)", "; rollback(0)", "; recover(0)", "; stage(0); recover(0)",
+            "; stage(0); finalize(0)"};
+        for (String mix : new String[] {"AAAA", "PPPP", "AP-A", "-PA-"}) {
+            for (String status : statuses) {
+                for (int slot = 0; slot < 4; slot++) {
+                    if (mix.charAt(slot) != '-') {
+                        due.refused(Mix.run(mix) + status, "deliver(0, " + slot + ")", ParallelCommit.ERR_DUP);
+                    }
+                }
+            }
+        }
+    }
+
+    /** Read, prevented or written at 10, and a transaction just below, at and just above it. */
+    private static void pushesWhatIsAtOrAbove() {
+        String read = "begin(5); read(3, 10)";
+        String version = "begin(10); addWrite(0, 3, 1); deliver(0, 0); stage(0); finalize(0)";
+        String probed = "begin(10); addWrite(0, 3, 1); stage(0); probe(0, 0)";
+        String recovered = "begin(10); addWrite(0, 3, 1); stage(0); recover(0)";
+        for (String run : new String[] {read, version, probed, recovered}) {
+            for (int ts = 9; ts <= 12; ts++) {
+                String more = run + "; begin(" + ts + "); addWrite(1, 3, 2)";
+                due.answers(more, "deliver(1, 0)", ts > 10 ? ParallelCommit.SLOT_AT_TS : ParallelCommit.SLOT_PUSHED);
+                due.answers(more + "; deliver(1, 0)", "slotTs(1, 0)", ts > 10 ? ts : 11);
+            }
+        }
+        String aborted = "begin(10); addWrite(0, 3, 1); deliver(0, 0); rollback(0)";
+        due.answers(aborted + "; begin(9); addWrite(1, 3, 2)", "deliver(1, 0)", ParallelCommit.SLOT_AT_TS);
+        String blocked = "begin(10); addWrite(0, 3, 1); deliver(0, 0); read(3, 20); rollback(0)";
+        due.answers(blocked + "; begin(10); addWrite(1, 3, 2)", "deliver(1, 0)", ParallelCommit.SLOT_AT_TS);
+        String refusedRead = "begin(5); read(3, 0); read(3, 1000001); read(-1, 20); read(2, 20)";
+        due.answers(refusedRead + "; begin(1); addWrite(1, 3, 2)", "deliver(1, 0)", ParallelCommit.SLOT_AT_TS);
+    }
+
+    /** The floor at MAX_TS, by a read, a version and a prevention, for the least and the greatest timestamp. */
+    private static void neverWraps() {
+        String read = "begin(5); read(3, 1000000)";
+        String version = "begin(1000000); addWrite(0, 3, 1); deliver(0, 0); stage(0); finalize(0)";
+        String probed = "begin(1000000); addWrite(0, 3, 1); stage(0); probe(0, 0)";
+        for (String run : new String[] {read, version, probed}) {
+            for (int ts : new int[] {1, 999999, 1000000}) {
+                String more = run + "; begin(" + ts + "); addWrite(1, 3, 2)";
+                due.answers(more, "deliver(1, 0)", ParallelCommit.SLOT_PUSHED);
+                due.answers(more + "; deliver(1, 0)", "slotTs(1, 0)", 1000001);
+                due.answers(more + "; deliver(1, 0)", "tsCache(3)", run.equals(version) ? 0 : 1000000);
+                due.answers(more + "; deliver(1, 0)", "read(3, 1000000)", run.equals(version) ? 1 : ParallelCommit.READ_NONE);
+                due.answers(more + "; deliver(1, 0); stage(1)", "finalize(1)", ParallelCommit.ST_ABORTED);
+            }
+            String again = run + "; begin(7); addWrite(1, 3, 2); deliver(1, 0); rollback(1); begin(8); addWrite(2, 3, 2)";
+            due.answers(again + "; deliver(2, 0)", "slotTs(2, 0)", 1000001);
+        }
+        String below = "begin(5); read(3, 999999); begin(1000000); addWrite(1, 3, 2); deliver(1, 0)";
+        due.answers(below, "slotTs(1, 0)", 1000000);
     }
 }

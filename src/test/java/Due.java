@@ -1,3 +1,4 @@
+import java.util.Arrays;
 import java.util.LinkedHashMap;
 import java.util.List;
 import java.util.Map;
@@ -6,10 +7,33 @@ import java.util.function.IntSupplier;
 
 /** Counts the answers that are not the ones due, and ends a test with exit code 1 if there was one. */
 final class Due {
-    /** Ints that are no valid txn, slot or key in any state. */
-    static final int[] WILD = {Integer.MIN_VALUE, -1000000, -17, -1, 16, 32, 1000000, Integer.MAX_VALUE};
+    /**
+     * Ints that are no valid txn, slot or key in any state. The powers of two become small again
+     * when they are multiplied by a number of slots or of versions, or are cut to fewer bits.
+     */
+    static final int[] WILD = {Integer.MIN_VALUE, Integer.MIN_VALUE + 1, -1000000, -65536, -256, -17, -16, -8, -4, -1,
+        16, 32, 256, 65536, 1000000, 1 << 28, 1 << 29, 1 << 30, Integer.MAX_VALUE - 1, Integer.MAX_VALUE};
+
+    private static final int MAX_SECONDS = 300;
 
     private int wrong = 0;
+
+    Due() {
+        Thread guard = new Thread(Due::endWhatDoesNotEnd);
+        guard.setDaemon(true);
+        guard.start();
+    }
+
+    // "No call ever throws or loops": a call that loops must fail its test, not hold it up for ever.
+    private static void endWhatDoesNotEnd() {
+        try {
+            Thread.sleep(MAX_SECONDS * 1000L);
+        } catch (InterruptedException e) {
+            return;
+        }
+        System.out.println("the test has not ended in " + MAX_SECONDS + " seconds");
+        Runtime.getRuntime().halt(1);
+    }
 
     void is(String call, int got, int want) {
         if (got != want) {
@@ -37,6 +61,28 @@ final class Due {
         TreeSet<String> due = new TreeSet<>(List.of(changes));
         if (!got.equals(due)) {
             tell(name + " changed " + got + ", due is " + due);
+        }
+    }
+
+    /** After this run on a new object the call answers want. */
+    void answers(String run, String call, int want) {
+        ParallelCommit x = Call.made(ParallelCommit.MAX_TXNS, Call.parse(run));
+        is(call + " after " + run, Call.parse(call).get(0).on(x), want);
+    }
+
+    /** After this run on a new object the call answers code, and nothing that a later call could show has changed. */
+    void refused(String run, String call, int code) {
+        refused(ParallelCommit.MAX_TXNS, run, call, code);
+    }
+
+    void refused(int maxTxns, String run, String call, int code) {
+        List<Call> calls = Call.parse(run);
+        Call last = Call.parse(call).get(0);
+        int[] before = Reveal.of(maxTxns, calls);
+        is(call + " after " + run, last.on(Call.made(maxTxns, calls)), code);
+        calls.add(last);
+        if (!Arrays.equals(Reveal.of(maxTxns, calls), before)) {
+            tell(call + " after " + run + " changed something, due is no change");
         }
     }
 

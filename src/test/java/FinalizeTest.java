@@ -6,6 +6,8 @@ public final class FinalizeTest {
         commits();
         abortsWhenPushed();
         refuses();
+        decidesByEverySlot();
+        examinesItsConditionsInOrder();
         due.end();
     }
 
@@ -68,5 +70,43 @@ public final class FinalizeTest {
         x.stage(2);
         x.probe(2, 0);
         due.call(x, "finalize(2), prevented, not delivered", () -> x.finalize(2), ParallelCommit.ERR_NOT_READY);
+    }
+
+    private static void decidesByEverySlot() {
+        for (String mix : Mix.all()) {
+            String run = Mix.run(mix) + "; stage(0)";
+            if (!Mix.allDelivered(mix)) {
+                due.refused(run, "finalize(0)", ParallelCommit.ERR_NOT_READY);
+                continue;
+            }
+            boolean commits = Mix.allAtTs(mix);
+            int decision = commits ? ParallelCommit.ST_COMMITTED : ParallelCommit.ST_ABORTED;
+            ParallelCommit x = Call.made(8, Call.parse(run));
+            due.call(x, "finalize(0) of " + mix, () -> x.finalize(0), decision, "status(0)=" + decision);
+            for (int slot = 0; slot < mix.length(); slot++) {
+                int key = Mix.key(slot);
+                due.is("read(" + key + ", 9) of " + mix, x.read(key, 9), ParallelCommit.READ_NONE);
+                due.is("read(" + key + ", 20) of " + mix, x.read(key, 20), commits ? Mix.value(slot) : ParallelCommit.READ_NONE);
+            }
+        }
+    }
+
+    private static void examinesItsConditionsInOrder() {
+        for (String dead : new String[] {"", "; crash(0)"}) {
+            due.refused("begin(10)" + dead, "finalize(1)", ParallelCommit.ERR_NO_TXN);
+            due.refused("begin(10)" + dead, "finalize(0)", ParallelCommit.ERR_STATE);
+            due.refused(Mix.run("AA") + dead, "finalize(0)", ParallelCommit.ERR_STATE);
+            due.refused(Mix.run("A-") + dead, "finalize(0)", ParallelCommit.ERR_STATE);
+            due.refused(Mix.run("A-") + "; stage(0); recover(0)" + dead, "finalize(0)", ParallelCommit.ERR_STATE);
+            due.refused(Mix.run("AA") + "; rollback(0)" + dead, "finalize(0)", ParallelCommit.ERR_STATE);
+            due.refused(Mix.run("AA") + "; stage(0); finalize(0)" + dead, "finalize(0)", ParallelCommit.ERR_STATE);
+            due.refused(Mix.run("AP") + "; stage(0); finalize(0)" + dead, "finalize(0)", ParallelCommit.ERR_STATE);
+        }
+        for (String mix : new String[] {"A", "P", "-", "AA", "AP", "A-", "----"}) {
+            due.refused(Mix.run(mix) + "; stage(0); crash(0)", "finalize(0)", ParallelCommit.ERR_DEAD);
+        }
+        due.refused(Mix.run("A-") + "; stage(0); probe(0, 1)", "finalize(0)", ParallelCommit.ERR_NOT_READY);
+        due.refused(Mix.run("P-") + "; stage(0)", "finalize(0)", ParallelCommit.ERR_NOT_READY);
+        due.refused(Mix.run("-P") + "; stage(0)", "finalize(0)", ParallelCommit.ERR_NOT_READY);
     }
 }

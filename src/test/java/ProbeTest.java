@@ -6,6 +6,9 @@ public final class ProbeTest {
         probes();
         raisesTheCacheOnlyUpwards();
         refuses();
+        answersHowEverySlotStands();
+        examinesItsConditionsInOrder();
+        preventsAtTheEdges();
         due.end();
     }
 
@@ -71,5 +74,64 @@ public final class ProbeTest {
         Due.committed(x, 20, 0);
         due.call(x, "probe(1, 0), committed", () -> x.probe(1, 0), ParallelCommit.ERR_STATE);
         due.call(x, "probe(1, 5), committed", () -> x.probe(1, 5), ParallelCommit.ERR_STATE);
+    }
+
+    private static void answersHowEverySlotStands() {
+        for (String mix : Mix.all()) {
+            for (String then : new String[] {"; stage(0)", "; stage(0); crash(0)"}) {
+                for (int slot = 0; slot < mix.length(); slot++) {
+                    probeOne(mix, Mix.run(mix) + then, slot);
+                }
+            }
+        }
+    }
+
+    private static void probeOne(String mix, String run, int slot) {
+        ParallelCommit x = Call.made(8, Call.parse(run));
+        String name = "probe(0, " + slot + ") of " + mix;
+        switch (mix.charAt(slot)) {
+            case 'A' -> due.call(x, name, () -> x.probe(0, slot), ParallelCommit.SLOT_AT_TS);
+            case 'P' -> due.call(x, name, () -> x.probe(0, slot), ParallelCommit.SLOT_PUSHED);
+            default -> {
+                due.call(x, name, () -> x.probe(0, slot), ParallelCommit.SLOT_PREVENTED,
+                    "tsCache(" + Mix.key(slot) + ")=10", "slotState(0, " + slot + ")=2");
+                due.is("deliver after " + name, x.deliver(0, slot), ParallelCommit.SLOT_PUSHED);
+                due.is("slotTs after " + name, x.slotTs(0, slot), 11);
+            }
+        }
+        // A probe of a delivered slot changes nothing, and that is no more than a refused call does.
+        if (mix.charAt(slot) != '-') {
+            int answer = mix.charAt(slot) == 'A' ? ParallelCommit.SLOT_AT_TS : ParallelCommit.SLOT_PUSHED;
+            due.refused(run, "probe(0, " + slot + ")", answer);
+        }
+    }
+
+    private static void examinesItsConditionsInOrder() {
+        String staged = Mix.run("A-") + "; stage(0)";
+        String[] others = {"begin(10)", Mix.run("A-"), Mix.run("A-") + "; crash(0)", Mix.run("A-") + "; rollback(0)",
+            staged + "; recover(0)", Mix.run("AA") + "; stage(0); finalize(0)"};
+        for (String run : others) {
+            for (int slot = -1; slot <= 4; slot++) {
+                due.refused(run, "probe(0, " + slot + ")", ParallelCommit.ERR_STATE);
+                due.refused(run, "probe(1, " + slot + ")", ParallelCommit.ERR_NO_TXN);
+            }
+        }
+        for (int slot : new int[] {Integer.MIN_VALUE, -1, 2, 3, 4, Integer.MAX_VALUE}) {
+            due.refused(staged, "probe(0, " + slot + ")", ParallelCommit.ERR_ARG);
+            due.refused(staged + "; crash(0)", "probe(0, " + slot + ")", ParallelCommit.ERR_ARG);
+            due.refused(staged, "probe(1, " + slot + ")", ParallelCommit.ERR_NO_TXN);
+            due.refused(staged, "probe(-1, " + slot + ")", ParallelCommit.ERR_NO_TXN);
+        }
+    }
+
+    private static void preventsAtTheEdges() {
+        for (int ts : new int[] {1, 1000000}) {
+            String run = "begin(" + ts + "); addWrite(0, 3, 1); stage(0)";
+            due.answers(run, "probe(0, 0)", ParallelCommit.SLOT_PREVENTED);
+            due.answers(run + "; probe(0, 0)", "tsCache(3)", ts);
+            due.answers(run + "; probe(0, 0); deliver(0, 0)", "slotTs(0, 0)", ts + 1);
+            due.answers(run + "; probe(0, 0)", "isImplicitlyCommitted(0)", 0);
+            due.answers(run + "; probe(0, 0)", "status(0)", ParallelCommit.ST_STAGING);
+        }
     }
 }

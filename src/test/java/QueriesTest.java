@@ -10,6 +10,11 @@ public final class QueriesTest {
         isImplicitlyCommitted();
         tsCache();
         changeNothing();
+        answerInAnyStatus();
+        slotStateAroundTheFloor();
+        decisionsFitTheImplicitCommit();
+        implicitCommitStays();
+        tsCacheStaysInItsRange();
         due.end();
     }
 
@@ -167,5 +172,124 @@ public final class QueriesTest {
         due.is("deliver(0, 1) after the queries", x.deliver(0, 1), ParallelCommit.SLOT_PUSHED);
         due.is("slotTs(0, 1)", x.slotTs(0, 1), 11);
         due.is("begin after the queries", x.begin(4), 1);
+    }
+
+    /** Every mix of slots in every status, with a live and a dead coordinator, and each argument just outside. */
+    private static void answerInAnyStatus() {
+        String[] ways = {"", "; stage(0)", "; rollback(0)", "; recover(0)", "; stage(0); recover(0)", "; stage(0); finalize(0)"};
+        for (String mix : Mix.all()) {
+            for (String way : ways) {
+                for (String dead : new String[] {"", "; crash(0)"}) {
+                    answerAsDue(mix, way, Call.made(8, Call.parse(Mix.run(mix) + way + dead)), dead.isEmpty());
+                }
+            }
+        }
+    }
+
+    private static void answerAsDue(String mix, String way, ParallelCommit x, boolean alive) {
+        String of = " of " + mix + way;
+        boolean staged = way.startsWith("; stage");
+        boolean finalized = way.endsWith("finalize(0)") && Mix.allDelivered(mix);
+        boolean decided = finalized || way.endsWith("recover(0)") || way.endsWith("rollback(0)");
+        int undecided = staged ? ParallelCommit.ST_STAGING : ParallelCommit.ST_PENDING;
+        int decision = staged && Mix.allAtTs(mix) ? ParallelCommit.ST_COMMITTED : ParallelCommit.ST_ABORTED;
+        due.is("status(0)" + of, x.status(0), decided ? decision : undecided);
+        due.is("isAlive(0)" + of, x.isAlive(0), alive);
+        due.is("isImplicitlyCommitted(0)" + of, x.isImplicitlyCommitted(0), staged && Mix.allAtTs(mix));
+        boolean prevented = way.equals("; stage(0); recover(0)");
+        for (int slot = 0; slot < mix.length(); slot++) {
+            char letter = mix.charAt(slot);
+            int notDelivered = prevented ? ParallelCommit.SLOT_PREVENTED : ParallelCommit.SLOT_INFLIGHT;
+            int delivered = letter == 'A' ? ParallelCommit.SLOT_AT_TS : ParallelCommit.SLOT_PUSHED;
+            due.is("slotState(0, " + slot + ")" + of, x.slotState(0, slot), letter == '-' ? notDelivered : delivered);
+            due.is("slotTs(0, " + slot + ")" + of, x.slotTs(0, slot), Mix.placed(letter));
+        }
+        for (int slot : new int[] {Integer.MIN_VALUE, -1, mix.length(), 4, Integer.MAX_VALUE}) {
+            due.is("slotState(0, " + slot + ")" + of, x.slotState(0, slot), ParallelCommit.ERR_ARG);
+            due.is("slotTs(0, " + slot + ")" + of, x.slotTs(0, slot), ParallelCommit.ERR_ARG);
+        }
+        for (int txn : new int[] {Integer.MIN_VALUE, -1, 1, 8, Integer.MAX_VALUE}) {
+            due.is("status(" + txn + ")" + of, x.status(txn), ParallelCommit.ST_FREE);
+            due.is("isAlive(" + txn + ")" + of, x.isAlive(txn), false);
+            due.is("isImplicitlyCommitted(" + txn + ")" + of, x.isImplicitlyCommitted(txn), false);
+            due.is("slotState(" + txn + ", 0)" + of, x.slotState(txn, 0), ParallelCommit.ERR_NO_TXN);
+            due.is("slotState(" + txn + ", -1)" + of, x.slotState(txn, -1), ParallelCommit.ERR_NO_TXN);
+            due.is("slotTs(" + txn + ", 0)" + of, x.slotTs(txn, 0), ParallelCommit.ERR_NO_TXN);
+            due.is("slotTs(" + txn + ", -1)" + of, x.slotTs(txn, -1), ParallelCommit.ERR_NO_TXN);
+        }
+        for (int key : Due.WILD) {
+            due.is("tsCache(" + key + ")" + of, x.tsCache(key), ParallelCommit.ERR_ARG);
+        }
+    }
+
+    /** "floor(key(slot)) >= ts(txn)", the floor by a read, a version and a prevention, in any status of the slot's own. */
+    private static void slotStateAroundTheFloor() {
+        for (int floor : new int[] {1, 9, 10, 11, 1000000}) {
+            String read = "begin(5); read(3, " + floor + ")";
+            String version = "begin(" + floor + "); addWrite(0, 3, 1); deliver(0, 0); stage(0); finalize(0)";
+            String probed = "begin(" + floor + "); addWrite(0, 3, 1); stage(0); probe(0, 0)";
+            int want = floor >= 10 ? ParallelCommit.SLOT_PREVENTED : ParallelCommit.SLOT_INFLIGHT;
+            for (String run : new String[] {read, version, probed}) {
+                for (String status : new String[] {"", "; stage(1)", "; rollback(1)", "; recover(1)", "; crash(1)"}) {
+                    String more = run + "; begin(10); addWrite(1, 3, 2)" + status;
+                    due.answers(more, "slotState(1, 0)", want);
+                    due.answers(more, "slotTs(1, 0)", 0);
+                }
+            }
+        }
+        String delivered = "begin(10); addWrite(0, 3, 1); deliver(0, 0); begin(20); addWrite(1, 3, 1); stage(1); probe(1, 0)";
+        due.answers(delivered, "slotState(0, 0)", ParallelCommit.SLOT_AT_TS);
+        due.answers(delivered, "slotTs(0, 0)", 10);
+    }
+
+    /** What became committed is implicitly committed, what became aborted is not, in each way of deciding. */
+    private static void decisionsFitTheImplicitCommit() {
+        String[] ways = {"; rollback(0)", "; recover(0)", "; stage(0); recover(0)", "; stage(0); finalize(0)"};
+        for (String mix : Mix.all()) {
+            for (String way : ways) {
+                ParallelCommit x = Call.made(8, Call.parse(Mix.run(mix) + way));
+                if (x.status(0) == ParallelCommit.ST_COMMITTED) {
+                    due.is("isImplicitlyCommitted(0) of " + mix + way + ", committed", x.isImplicitlyCommitted(0), true);
+                } else if (x.status(0) == ParallelCommit.ST_ABORTED) {
+                    due.is("isImplicitlyCommitted(0) of " + mix + way + ", aborted", x.isImplicitlyCommitted(0), false);
+                }
+            }
+        }
+    }
+
+    /** After any two more calls what was implicitly committed still is, is not aborted, and its values can be read. */
+    private static void implicitCommitStays() {
+        String[] calls = {"addWrite(0, 1, 1)", "stage(0)", "deliver(0, 0)", "deliver(0, 1)", "deliver(1, 0)", "finalize(0)",
+            "finalize(1)", "rollback(0)", "rollback(1)", "crash(0)", "probe(0, 0)", "probe(0, 1)", "probe(1, 0)", "stage(1)",
+            "recover(0)", "recover(1)", "read(0, 9)", "read(0, 10)", "read(5, 1000000)", "begin(10)", "addWrite(1, 5, 3)"};
+        String run = Mix.run("AA") + "; stage(0); begin(20); addWrite(1, 0, 50)";
+        for (String first : calls) {
+            for (String second : calls) {
+                String whole = run + "; " + first + "; " + second;
+                ParallelCommit x = Call.made(8, Call.parse(whole));
+                due.is("isImplicitlyCommitted(0) after " + whole, x.isImplicitlyCommitted(0), true);
+                due.is("status(0) after " + whole + " is aborted", x.status(0) == ParallelCommit.ST_ABORTED, false);
+                x.recover(0);
+                due.is("status(0) in the end of " + whole, x.status(0), ParallelCommit.ST_COMMITTED);
+                due.is("isImplicitlyCommitted(0) in the end of " + whole, x.isImplicitlyCommitted(0), true);
+                due.is("read(0, 10) in the end of " + whole, x.read(0, 10), Mix.value(0));
+                due.is("read(5, 10) in the end of " + whole, x.read(5, 10), Mix.value(1));
+            }
+        }
+    }
+
+    private static void tsCacheStaysInItsRange() {
+        for (int key = 0; key < 16; key++) {
+            String pushed = "begin(1000000); addWrite(0, " + key + ", 1); stage(0); probe(0, 0); deliver(0, 0)";
+            due.answers("", "tsCache(" + key + ")", 0);
+            due.answers("read(" + key + ", 0); read(" + key + ", 1000001)", "tsCache(" + key + ")", 0);
+            due.answers("read(" + key + ", 1)", "tsCache(" + key + ")", 1);
+            due.answers("read(" + key + ", 1000000)", "tsCache(" + key + ")", 1000000);
+            due.answers(pushed, "tsCache(" + key + ")", 1000000);
+            due.answers(pushed + "; finalize(0); read(" + key + ", 1000000)", "tsCache(" + key + ")", 1000000);
+        }
+        for (int key : Due.WILD) {
+            due.refused("read(0, 5); read(15, 6)", "tsCache(" + key + ")", ParallelCommit.ERR_ARG);
+        }
     }
 }

@@ -8,6 +8,10 @@ public final class RecoverTest {
         preventsEverySlotNotDelivered();
         abortsAPushedOne();
         refuses();
+        abortsEveryPendingOne();
+        decidesByEverySlot();
+        raisedCachesStayRaised();
+        refusesWhatIsDecided();
         due.end();
     }
 
@@ -86,5 +90,70 @@ public final class RecoverTest {
         Due.committed(x, 10, 1);
         due.call(x, "recover(1), committed", () -> x.recover(1), ParallelCommit.ERR_STATE);
         due.is("read(1, 10)", x.read(1, 10), 101);
+    }
+
+    /** "no slot is prevented": of all that can be seen the status alone changes. */
+    private static void abortsEveryPendingOne() {
+        for (String mix : Mix.all()) {
+            for (String dead : new String[] {"", "; crash(0)"}) {
+                ParallelCommit x = Call.made(8, Call.parse(Mix.run(mix) + dead));
+                due.call(x, "recover(0) of " + mix + ", pending", () -> x.recover(0), ParallelCommit.ST_ABORTED, "status(0)=4");
+                for (int slot = 0; slot < mix.length(); slot++) {
+                    due.is("read(" + Mix.key(slot) + ", 20) of " + mix, x.read(Mix.key(slot), 20), ParallelCommit.READ_NONE);
+                }
+            }
+        }
+    }
+
+    /** "(no early stop)": every slot that is not delivered is prevented, wherever it stands among the others. */
+    private static void decidesByEverySlot() {
+        for (String mix : Mix.all()) {
+            for (String dead : new String[] {"", "; crash(0)"}) {
+                ParallelCommit x = Call.made(8, Call.parse(Mix.run(mix) + "; stage(0)" + dead));
+                boolean commits = Mix.allAtTs(mix);
+                int decision = commits ? ParallelCommit.ST_COMMITTED : ParallelCommit.ST_ABORTED;
+                due.is("recover(0) of " + mix, x.recover(0), decision);
+                due.is("status(0) of " + mix, x.status(0), decision);
+                due.is("isAlive(0) of " + mix, x.isAlive(0), dead.isEmpty());
+                for (int slot = 0; slot < mix.length(); slot++) {
+                    char letter = mix.charAt(slot);
+                    int key = Mix.key(slot);
+                    due.is("tsCache(" + key + ") of " + mix, x.tsCache(key), letter == '-' ? 10 : Mix.cached(letter));
+                    due.is("slotTs(0, " + slot + ") of " + mix, x.slotTs(0, slot), Mix.placed(letter));
+                    int value = commits ? Mix.value(slot) : ParallelCommit.READ_NONE;
+                    due.is("read(" + key + ", 20) of " + mix, x.read(key, 20), value);
+                }
+                due.is("tsCache(1) of " + mix, x.tsCache(1), 0);
+            }
+        }
+    }
+
+    private static void raisedCachesStayRaised() {
+        // Raised above the intent of 0 by the recovery of 1, which the recovery of 0 as committed leaves as it is.
+        String run = "begin(10); addWrite(0, 3, 1); deliver(0, 0); stage(0); begin(20); addWrite(1, 3, 2); stage(1); recover(1)";
+        due.answers(run, "tsCache(3)", 20);
+        due.answers(run, "recover(0)", ParallelCommit.ST_COMMITTED);
+        due.answers(run + "; recover(0)", "tsCache(3)", 20);
+        String low = "read(3, 4); begin(10); addWrite(0, 3, 1); deliver(0, 0); stage(0)";
+        due.answers(low + "; recover(0)", "status(0)", ParallelCommit.ST_COMMITTED);
+        due.answers(low + "; recover(0)", "tsCache(3)", 4);
+        for (int read : new int[] {9, 10, 11}) {
+            String aborted = "begin(10); addWrite(0, 3, 1); stage(0); read(3, " + read + ")";
+            due.answers(aborted + "; recover(0)", "status(0)", ParallelCommit.ST_ABORTED);
+            due.answers(aborted + "; recover(0)", "tsCache(3)", Math.max(read, 10));
+        }
+    }
+
+    private static void refusesWhatIsDecided() {
+        for (String mix : new String[] {"A", "P", "-", "AAAA", "AP-A", "----"}) {
+            for (String status : new String[] {"; rollback(0)", "; recover(0)", "; stage(0); recover(0)"}) {
+                due.refused(Mix.run(mix) + status, "recover(0)", ParallelCommit.ERR_STATE);
+                due.refused(Mix.run(mix) + status + "; crash(0)", "recover(0)", ParallelCommit.ERR_STATE);
+                due.refused(Mix.run(mix) + status, "recover(1)", ParallelCommit.ERR_NO_TXN);
+            }
+        }
+        due.refused(Mix.run("AAAA") + "; stage(0); finalize(0)", "recover(0)", ParallelCommit.ERR_STATE);
+        due.refused(Mix.run("AAAP") + "; stage(0); finalize(0)", "recover(0)", ParallelCommit.ERR_STATE);
+        due.refused("begin(10); rollback(0)", "recover(0)", ParallelCommit.ERR_STATE);
     }
 }

@@ -5,6 +5,8 @@ public final class RollbackTest {
     public static void main(String[] args) {
         aborts();
         refuses();
+        abortsWhateverTheSlots();
+        examinesItsConditionsInOrder();
         due.end();
     }
 
@@ -43,5 +45,30 @@ public final class RollbackTest {
         Due.committed(x, 10, 2);
         due.call(x, "rollback(2), committed", () -> x.rollback(2), ParallelCommit.ERR_STATE);
         due.is("read(2, 10) after it", x.read(2, 10), 102);
+    }
+
+    private static void abortsWhateverTheSlots() {
+        for (String mix : Mix.all()) {
+            ParallelCommit x = Call.made(8, Call.parse(Mix.run(mix)));
+            due.call(x, "rollback(0) of " + mix, () -> x.rollback(0), ParallelCommit.ST_ABORTED, "status(0)=4");
+            for (int slot = 0; slot < mix.length(); slot++) {
+                due.is("read(" + Mix.key(slot) + ", 20) of " + mix, x.read(Mix.key(slot), 20), ParallelCommit.READ_NONE);
+            }
+        }
+    }
+
+    private static void examinesItsConditionsInOrder() {
+        for (int wild : Due.WILD) {
+            due.refused("begin(10); crash(0)", "rollback(" + wild + ")", ParallelCommit.ERR_NO_TXN);
+        }
+        due.refused("begin(10); crash(0)", "rollback(0)", ParallelCommit.ERR_DEAD);
+        due.refused(Mix.run("AP-") + "; crash(0)", "rollback(0)", ParallelCommit.ERR_DEAD);
+        String[] runs = {"begin(10); rollback(0)", "begin(10); recover(0)", Mix.run("A-") + "; stage(0)",
+            Mix.run("AA") + "; stage(0)", Mix.run("AA") + "; stage(0); finalize(0)",
+            Mix.run("AP") + "; stage(0); finalize(0)", Mix.run("-") + "; stage(0); recover(0)"};
+        for (String run : runs) {
+            due.refused(run, "rollback(0)", ParallelCommit.ERR_STATE);
+            due.refused(run + "; crash(0)", "rollback(0)", ParallelCommit.ERR_STATE);
+        }
     }
 }

@@ -6,6 +6,8 @@ public final class StageTest {
         stages();
         refuses();
         keepsPipelinedWrites();
+        commitsImplicitlyWhenAllAreAtTs();
+        examinesItsConditionsInOrder();
         due.end();
     }
 
@@ -54,5 +56,36 @@ public final class StageTest {
         due.call(x, "stage(1), one pushed, one under way", () -> x.stage(1), ParallelCommit.OK, "status(1)=2");
         due.is("read(0, 9) below the intent", x.read(0, 9), ParallelCommit.READ_NONE);
         due.is("read(0, 10) at the intent", x.read(0, 10), ParallelCommit.READ_BLOCKED);
+    }
+
+    private static void commitsImplicitlyWhenAllAreAtTs() {
+        for (String mix : Mix.all()) {
+            String run = Mix.run(mix);
+            due.answers(run, "isImplicitlyCommitted(0)", 0);
+            ParallelCommit x = Call.made(8, Call.parse(run));
+            if (Mix.allAtTs(mix)) {
+                due.call(x, "stage(0) of " + mix, () -> x.stage(0), ParallelCommit.OK,
+                    "status(0)=2", "isImplicitlyCommitted(0)=1");
+            } else {
+                due.call(x, "stage(0) of " + mix, () -> x.stage(0), ParallelCommit.OK, "status(0)=2");
+            }
+            due.refused(run + "; stage(0)", "stage(0)", ParallelCommit.ERR_STATE);
+        }
+    }
+
+    private static void examinesItsConditionsInOrder() {
+        for (int wild : Due.WILD) {
+            due.refused("begin(10); addWrite(0, 0, 1)", "stage(" + wild + ")", ParallelCommit.ERR_NO_TXN);
+        }
+        due.refused("begin(10)", "stage(0)", ParallelCommit.ERR_NOT_READY);
+        due.refused("begin(10); addWrite(0, 16, 1)", "stage(0)", ParallelCommit.ERR_NOT_READY);
+        due.refused("begin(10); begin(20); addWrite(1, 0, 1)", "stage(0)", ParallelCommit.ERR_NOT_READY);
+        due.refused("begin(10); crash(0)", "stage(0)", ParallelCommit.ERR_DEAD);
+        due.refused("begin(10); addWrite(0, 0, 1); crash(0)", "stage(0)", ParallelCommit.ERR_DEAD);
+        due.refused("begin(10); rollback(0)", "stage(0)", ParallelCommit.ERR_STATE);
+        due.refused("begin(10); recover(0); crash(0)", "stage(0)", ParallelCommit.ERR_STATE);
+        due.refused("begin(10); addWrite(0, 0, 1); stage(0); crash(0)", "stage(0)", ParallelCommit.ERR_STATE);
+        due.refused(Mix.run("AA") + "; stage(0); finalize(0)", "stage(0)", ParallelCommit.ERR_STATE);
+        due.refused(Mix.run("AA") + "; stage(0); crash(0); recover(0)", "stage(0)", ParallelCommit.ERR_STATE);
     }
 }
